@@ -1,0 +1,166 @@
+import java.io.IOException;
+import java.io.InputStream;
+import java.lang.reflect.Constructor;
+import java.lang.reflect.Field;
+import java.lang.reflect.Method;
+import java.lang.reflect.Modifier;
+import java.nio.charset.StandardCharsets;
+import java.nio.file.Files;
+import java.nio.file.Path;
+import java.util.ArrayList;
+import java.util.Arrays;
+import java.util.HashSet;
+import java.util.List;
+import java.util.Set;
+import java.util.TreeSet;
+import java.util.regex.Matcher;
+import java.util.regex.Pattern;
+
+/** The rules of LANGUAGE.md that can be seen from the source and from the compiled classes. */
+public final class LanguageTests {
+    private static final Path SOURCE = Path.of("src", "main", "java", "SparesHouse.java");
+    private static final String[] FACE = {
+        "int feed(int, int, int, int, int)", "int back(int)", "int text()", "int breaks(int, int)", "int pass(int)",
+        "int run(int, int)", "int buy(int, int)", "int sell(int, int)", "int supply(int)", "int set(int, int, int)",
+        "int odds(int, int, int)", "int benches(int)", "int keep(int)", "int rule()", "int begin()", "int undo()",
+        "int part(int, int)", "int base(int, int)", "int cell(int, int, int)", "int want(int, int)",
+        "int call(int, int, int)", "int way(int, int)", "int waits(int)", "int played(int)", "long out(int, int, int)",
+        "long lack(int, int, int)", "long lacks()", "int sure(int, int, int)", "int buys(int, int)",
+        "int bought(int, int)", "long lacksBy(int, boolean)", "int best(int, int, int)", "int purseFor(int)",
+        "int would(int, int, int)", "int spared(int, int, int, int)", "int by(int, int, int, int)",
+        "int bestKeep(int, int)", "int quiet()", "int spell(int)", "int count(int)"};
+    private static final String[] WORDS = {
+        "throw", "throws", "try", "catch", "finally", "synchronized", "assert", "import", "package", "protected",
+        "native", "volatile", "transient", "double", "float", "hashCode", "toString", "values", "Object", "record"};
+
+    private static int wrong = 0;
+
+    private static void due(String rule, boolean holds) {
+        if (!holds) {
+            wrong++;
+            System.out.println("LANGUAGE.md: " + rule);
+        }
+    }
+
+    public static void main(String[] args) throws IOException {
+        String code = bare(Files.readString(SOURCE, StandardCharsets.ISO_8859_1));
+        words(code);
+        methods(code);
+        face();
+        List<Class<?>> all = new ArrayList<>(Arrays.asList(SparesHouse.class.getDeclaredClasses()));
+        due("11: at most twelve classes", all.size() + 1 <= 12);
+        all.add(SparesHouse.class);
+        for (Class<?> one : all) {
+            inside(one);
+            compiled(one);
+        }
+        System.out.println(wrong == 0 ? "LanguageTests: the rules hold" : "LanguageTests: " + wrong + " rules are broken");
+        if (wrong != 0) {
+            System.exit(1);
+        }
+    }
+
+    /** The source without comments and without what stands in quotes. */
+    private static String bare(String source) {
+        String tokens = "/\\*.*?\\*/|//[^\\n]*|\"(?:\\\\.|[^\"\\\\])*\"|'(?:\\\\.|[^'\\\\])*'";
+        return Pattern.compile(tokens, Pattern.DOTALL).matcher(source).replaceAll(" ");
+    }
+
+    private static void words(String code) {
+        for (String word : WORDS) {
+            due("6: no " + word, !Pattern.compile("\\b" + word + "\\b").matcher(code).find());
+        }
+        due("2: no lambda, no method reference", !code.contains("->") && !code.contains("::"));
+        due("4: nothing that ends in Exact", !Pattern.compile("\\w+Exact\\b").matcher(code).find());
+        Matcher system = Pattern.compile("\\bSystem\\.(\\w+)").matcher(code);
+        while (system.find()) {
+            due("4: System." + system.group(1), system.group(1).equals("arraycopy"));
+        }
+        Matcher math = Pattern.compile("\\bMath\\.(\\w+)").matcher(code);
+        while (math.find()) {
+            due("4: Math." + math.group(1), Set.of("min", "max", "abs", "floorDiv", "floorMod").contains(math.group(1)));
+        }
+    }
+
+    /** A method's head stands on one line that ends in a brace; its end has the head's indentation. */
+    private static void methods(String code) {
+        String[] lines = code.split("\n");
+        Pattern head = Pattern.compile("^( +)(?:(?:public|private|static|final) )*[\\w\\[\\]]+ ?\\w*\\(([^)]*)\\) \\{$");
+        for (int i = 0; i < lines.length; i++) {
+            Matcher m = head.matcher(lines[i]);
+            if (!m.find() || lines[i].trim().matches("(if|for|while|switch) .*")) {
+                continue;
+            }
+            int end = i;
+            while (end < lines.length && !lines[end].equals(m.group(1) + "}")) {
+                end++;
+            }
+            due("11: a short method: " + lines[i].trim(), end - i <= 60);
+            due("11: at most seven parameters: " + lines[i].trim(), m.group(2).split(",").length <= 7);
+        }
+    }
+
+    private static void face() {
+        Set<String> publics = new TreeSet<>();
+        Set<String> names = new HashSet<>();
+        for (Method m : SparesHouse.class.getDeclaredMethods()) {
+            if (Modifier.isPublic(m.getModifiers())) {
+                publics.add(head(m));
+                names.add(m.getName());
+            }
+        }
+        due("1: the face is " + publics, publics.equals(new TreeSet<>(Arrays.asList(FACE))));
+        for (Method m : SparesHouse.class.getDeclaredMethods()) {
+            if (!Modifier.isPublic(m.getModifiers())) {
+                due("1: private " + m.getName(), Modifier.isPrivate(m.getModifiers()) && !names.contains(m.getName()));
+            }
+        }
+        for (Class<?> one : SparesHouse.class.getDeclaredClasses()) {
+            for (Method m : one.getDeclaredMethods()) {
+                due("1: a name of the face: " + m, !names.contains(m.getName()));
+            }
+        }
+        for (Field f : SparesHouse.class.getDeclaredFields()) {
+            due("1: private " + f.getName(), Modifier.isPrivate(f.getModifiers()) || f.getName().equals("NONE"));
+        }
+        Constructor<?>[] made = SparesHouse.class.getDeclaredConstructors();
+        due("1: one constructor", made.length == 1 && made[0].getParameterCount() == 0);
+        due("1: public and final", SparesHouse.class.getModifiers() == (Modifier.PUBLIC | Modifier.FINAL));
+    }
+
+    private static String head(Method m) {
+        StringBuilder text = new StringBuilder(m.getReturnType().getName() + " " + m.getName() + "(");
+        for (Class<?> p : m.getParameterTypes()) {
+            text.append(text.charAt(text.length() - 1) == '(' ? "" : ", ").append(p.getName());
+        }
+        return text.append(")").toString();
+    }
+
+    private static void inside(Class<?> one) {
+        due("2: static " + one, one == SparesHouse.class || Modifier.isStatic(one.getModifiers()));
+        due("2: no class deeper inside " + one, one == SparesHouse.class || one.getDeclaredClasses().length == 0);
+        int fields = 0;
+        for (Field f : one.getDeclaredFields()) {
+            if (Modifier.isStatic(f.getModifiers())) {
+                due("5: final " + f, Modifier.isFinal(f.getModifiers()));
+                due("5: a constant's type " + f, Set.of("int", "long", "boolean", "char", "java.lang.String", "[I", "[J",
+                    "[C", "[B").contains(f.getType().getName()));
+            } else {
+                fields++;
+            }
+        }
+        due("11: some twenty fields in " + one, fields <= 20);
+    }
+
+    /** Texts joined by + and lambdas leave their traces in a compiled class. */
+    private static void compiled(Class<?> one) throws IOException {
+        String file = one.getName() + ".class";
+        try (InputStream in = one.getResourceAsStream(file)) {
+            String bytes = new String(in.readAllBytes(), StandardCharsets.ISO_8859_1);
+            due("10: texts are joined by + in " + file, !bytes.contains("makeConcatWithConstants"));
+            due("2: a lambda in " + file, !bytes.contains("LambdaMetafactory"));
+            due("13: a clock, chance or a file in " + file, !bytes.contains("java/util/Random")
+                && !bytes.contains("nanoTime") && !bytes.contains("java/io/"));
+        }
+    }
+}
