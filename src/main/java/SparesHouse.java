@@ -48,7 +48,6 @@ public final class SparesHouse {
     private final Worth worth = new Worth();
 
     public SparesHouse() {
-        now.plan.clear();
         now.beginAnew();
     }
 
@@ -658,18 +657,14 @@ public final class SparesHouse {
             benches = other.benches;
             keep = other.keep;
             rule = other.rule;
-            for (int i = 0; i < PART_PLACES; i++) {
-                price[i] = other.price[i];
-                mend[i] = other.mend[i];
-                work[i] = other.work[i];
-                worksStock[i] = other.worksStock[i];
-                ship[i] = other.ship[i];
-            }
-            for (int i = 0; i < CELL_PLACES; i++) {
-                units[i] = other.units[i];
-                odds[i] = other.odds[i];
-                stock[i] = other.stock[i];
-            }
+            System.arraycopy(other.price, 0, price, 0, PART_PLACES);
+            System.arraycopy(other.mend, 0, mend, 0, PART_PLACES);
+            System.arraycopy(other.work, 0, work, 0, PART_PLACES);
+            System.arraycopy(other.worksStock, 0, worksStock, 0, PART_PLACES);
+            System.arraycopy(other.ship, 0, ship, 0, PART_PLACES);
+            System.arraycopy(other.units, 0, units, 0, CELL_PLACES);
+            System.arraycopy(other.odds, 0, odds, 0, CELL_PLACES);
+            System.arraycopy(other.stock, 0, stock, 0, CELL_PLACES);
         }
 
         boolean hasPart(int part) {
@@ -769,9 +764,7 @@ public final class SparesHouse {
             if (!has(i)) {
                 return;
             }
-            for (int j = i + 1; j < size; j++) {
-                slips[j - 1] = slips[j];
-            }
+            System.arraycopy(slips, i + 1, slips, i, size - 1 - i);
             size--;
         }
 
@@ -801,9 +794,7 @@ public final class SparesHouse {
 
         void copyFrom(Row other) {
             size = Math.min(other.size, slips.length);
-            for (int i = 0; i < size; i++) {
-                slips[i] = other.slips[i];
-            }
+            System.arraycopy(other.slips, 0, slips, 0, size);
         }
     }
 
@@ -860,14 +851,10 @@ public final class SparesHouse {
 
         void copyFrom(Play other) {
             plan.copyFrom(other.plan);
-            for (int i = 0; i < CELL_PLACES; i++) {
-                hand[i] = other.hand[i];
-                holes[i] = other.holes[i];
-                lentNet[i] = other.lentNet[i];
-            }
-            for (int i = 0; i < PART_PLACES; i++) {
-                worksHand[i] = other.worksHand[i];
-            }
+            System.arraycopy(other.hand, 0, hand, 0, CELL_PLACES);
+            System.arraycopy(other.holes, 0, holes, 0, CELL_PLACES);
+            System.arraycopy(other.lentNet, 0, lentNet, 0, CELL_PLACES);
+            System.arraycopy(other.worksHand, 0, worksHand, 0, PART_PLACES);
             ways.copyFrom(other.ways);
             wants.copyFrom(other.wants);
             calls.copyFrom(other.calls);
@@ -1015,6 +1002,9 @@ public final class SparesHouse {
         }
 
         private void lendAll() {
+            if (wants.size == 0 || !hasOneToLend()) {
+                return;
+            }
             for (int i = 0; i < wants.size; i++) {
                 long slip = wants.at(i);
                 if (Slip.mark(slip) == 0) {
@@ -1026,6 +1016,15 @@ public final class SparesHouse {
                     }
                 }
             }
+        }
+
+        private boolean hasOneToLend() {
+            for (int i = 0; i < CELL_PLACES; i++) {
+                if (hand[i] > plan.keep) {
+                    return true;
+                }
+            }
+            return false;
         }
 
         private int lenderFor(int cell) {

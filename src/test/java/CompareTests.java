@@ -24,6 +24,8 @@ public final class CompareTests {
             CompareTests test = new CompareTests(seed);
             if (seed % 40 == 0) {
                 test.playNearTheLastDay();
+            } else if (seed % 40 == 1) {
+                test.playFull();
             } else {
                 test.play();
             }
@@ -93,6 +95,36 @@ public final class CompareTests {
                 ask();
             } else {
                 askWere();
+            }
+        }
+    }
+
+    /** As many pieces as there can be, all of them broken. */
+    private void playFull() {
+        StringBuilder text = new StringBuilder(line("rule", number(0, 1)));
+        for (int i = 0; i < 3; i++) {
+            text.append(line("part", number(1, 30), 0, number(1, 9))).append(line("base", number(1, 9)));
+        }
+        for (int i = 0; i < 9; i++) {
+            text.append(line("cell", i / 3, i % 3, 8, number(11, 12), 9));
+        }
+        text.append("works 0 9;works 1 9;works 2 9;");
+        tell(text.toString());
+        while (calls < CALLS && wrong == 0) {
+            int b = number(0, 2);
+            int p = number(0, 2);
+            same("breaks(" + b + ", " + p + ")", house.breaks(b, p), naive.breaks(b, p));
+            if (random.nextInt(20) == 0) {
+                int seed = random.nextInt();
+                same("run(12, " + seed + ")", house.run(12, seed), naive.run(12, seed));
+            }
+            if (random.nextInt(4) == 0) {
+                askWere();
+                ask();
+                askByOdds();
+            }
+            if (random.nextInt(150) == 0) {
+                same("begin()", house.begin(), naive.begin());
             }
         }
     }

@@ -515,6 +515,8 @@ public final class PromiseTests {
         due("cell(0, 0, 3)", house.cell(0, 0, 3), 1);
         due("cell(0, 0, 2)", house.cell(0, 0, 2), 0);
         due("sell(0, 0)", house.sell(0, 0), NONE);
+        due("it stays in hand", house.cell(0, 0, 3), 1);
+        due("cell(0, 0, 2)", house.cell(0, 0, 2), 0);
     }
 
     private static void promise10() {
@@ -571,6 +573,13 @@ public final class PromiseTests {
         due("buys(0, 3) by the new price", house.buys(0, 3), 30);
         due("set(0, 0, 1)", house.set(0, 0, 1), 30);
         due("buys(0, 3) by the new price", house.buys(0, 3), 1);
+        house.undo();
+        due("buys(0, 3) by the old price", house.buys(0, 3), 30);
+        due("part(0, 0)", house.part(0, 0), 30);
+        house.set(0, 1, 1);
+        house.breaks(0, 0);
+        due("mended in a day", house.way(0, 4), 3);
+        due("mended in a day", house.way(0, 0), 0);
     }
 
     private static void promise12() {
