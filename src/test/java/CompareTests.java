@@ -3,7 +3,7 @@ import java.util.Random;
 /** Runs of random calls, the same on SparesHouse and on NaiveHouse: every answer must be the same. */
 public final class CompareTests {
     private static final int OBJECTS = 600;
-    private static final int CALLS = 500;
+    private static final int CALLS = 495;
 
     private final Random random;
     private final StringBuilder told = new StringBuilder();
@@ -84,7 +84,7 @@ public final class CompareTests {
         for (int i = 0; i < 332; i++) {
             same("pass(30)", house.pass(30), naive.pass(30));
         }
-        while (calls < 512 && wrong == 0) {
+        while (calls < CALLS && wrong == 0) {
             int kind = random.nextInt(10);
             if (kind < 3) {
                 act();

@@ -1,75 +1,11 @@
 /** Each promise of the document, with answers worked out by hand. */
-public final class PromiseTests {
-    private static final int NONE = SparesHouse.NONE;
-    private static final int FAR = Integer.MAX_VALUE;
-    private static final int DEEP = Integer.MIN_VALUE;
-    private static final long TO_6 = 2985984L;
-    private static final long TO_8 = 429981696L;
-
+public final class PromiseTests extends Checks {
     // Sent pieces: one bench, nothing at the works.
     private static final String SENDING = "part 5 0 2;base 2;base 3;cell 0 0 2 0 1;cell 1 0 2 0 0;";
     // Mended pieces, three bases of which two can lend.
     private static final String LENDING = "part 5 3 1;base 2;base 4;base 1;cell 0 0 2 0 0;cell 1 0 2 0 2;cell 2 0 2 0 2;";
     // Out of cell (0, 0) 81, 54, 9 times 12 to the 6th; of cell (0, 1) 72, 72.
     private static final String WEIGHED = "part 2 0 1;part 9 0 1;base 1;cell 0 0 2 3 0;cell 0 1 1 6 0;";
-
-    private static int wrong = 0;
-    private static int promise = 0;
-
-    private static void due(String what, long got, long want) {
-        if (got != want) {
-            wrong++;
-            System.out.println("promise " + promise + ": " + what + " answered " + got + ", due is " + want);
-        }
-    }
-
-    private static int tell(SparesHouse house, String text) {
-        int many = (text.length() + 19) / 20;
-        for (int i = 0; i < many; i++) {
-            int[] five = new int[5];
-            for (int j = 0; j < 20; j++) {
-                int at = i * 20 + j;
-                five[j / 4] |= (at < text.length() ? text.charAt(at) : ' ') << (24 - j % 4 * 8);
-            }
-            house.feed(five[0], five[1], five[2], five[3], five[4]);
-        }
-        house.back(many * 20 - text.length());
-        return house.text();
-    }
-
-    private static SparesHouse told(String text) {
-        SparesHouse house = new SparesHouse();
-        int answer = tell(house, text);
-        if (answer < 0) {
-            due("text() of " + text, answer, 0);
-        }
-        return house;
-    }
-
-    private static void faultAt(String text, int at) {
-        due("text() of " + text, tell(new SparesHouse(), text), -4 - at);
-    }
-
-    private static void read(String text, int cells) {
-        due("text() of " + text, tell(new SparesHouse(), text), cells);
-    }
-
-    private static String spelled(SparesHouse house) {
-        StringBuilder text = new StringBuilder();
-        int many = house.spell(NONE);
-        for (int i = 0; i < many; i++) {
-            text.append((char) house.spell(i));
-        }
-        return text.toString();
-    }
-
-    private static void spells(String what, SparesHouse house, String want) {
-        String got = spelled(house);
-        if (!got.equals(want)) {
-            wrong++;
-            System.out.println("promise " + promise + ": " + what + " spells " + got + ", due is " + want);
-        }
-    }
 
     public static void main(String[] args) {
         told();
@@ -78,10 +14,7 @@ public final class PromiseTests {
         byOdds();
         were();
         texts();
-        System.out.println(wrong == 0 ? "PromiseTests: all promises hold" : "PromiseTests: " + wrong + " answers are wrong");
-        if (wrong != 0) {
-            System.exit(1);
-        }
+        end("PromiseTests");
     }
 
     private static void told() {
