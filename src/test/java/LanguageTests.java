@@ -1,5 +1,7 @@
 import java.io.IOException;
 import java.io.InputStream;
+import java.io.PrintWriter;
+import java.io.StringWriter;
 import java.lang.reflect.Constructor;
 import java.lang.reflect.Field;
 import java.lang.reflect.Method;
@@ -9,12 +11,15 @@ import java.nio.file.Files;
 import java.nio.file.Path;
 import java.util.ArrayList;
 import java.util.Arrays;
+import java.util.HashMap;
 import java.util.HashSet;
 import java.util.List;
+import java.util.Map;
 import java.util.Set;
 import java.util.TreeSet;
 import java.util.regex.Matcher;
 import java.util.regex.Pattern;
+import java.util.spi.ToolProvider;
 
 /** The rules of LANGUAGE.md that can be seen from the source and from the compiled classes. */
 public final class LanguageTests {
@@ -54,6 +59,7 @@ public final class LanguageTests {
             inside(one);
             compiled(one);
         }
+        depth(all);
         System.out.println(wrong == 0 ? "LanguageTests: the rules hold" : "LanguageTests: " + wrong + " rules are broken");
         if (wrong != 0) {
             System.exit(1);
@@ -162,5 +168,56 @@ public final class LanguageTests {
             due("13: a clock, chance or a file in " + file, !bytes.contains("java/util/Random")
                 && !bytes.contains("nanoTime") && !bytes.contains("java/io/"));
         }
+    }
+
+    /** Rule 11: no chain of calls, the library's last one too, is longer than eight. */
+    private static void depth(List<Class<?>> all) {
+        ToolProvider javap = ToolProvider.findFirst("javap").orElse(null);
+        if (javap == null) {
+            System.out.println("LanguageTests: without javap the depth of calls is not looked at");
+            return;
+        }
+        Map<String, Set<String>> calls = new HashMap<>();
+        for (Class<?> one : all) {
+            StringWriter code = new StringWriter();
+            StringWriter errors = new StringWriter();
+            int failed = javap.run(new PrintWriter(code), new PrintWriter(errors), "-c", "-p", "-cp",
+                System.getProperty("java.class.path"), one.getName());
+            due("11: javap of " + one + ": " + errors, failed == 0);
+            callsOf(one.getName(), code.toString(), calls);
+        }
+        due("11: calls were found", calls.size() > FACE.length);
+        for (String method : calls.keySet()) {
+            due("11: calls deeper than eight from " + method, depthOf(method, calls, 1) <= 8);
+        }
+    }
+
+    private static void callsOf(String name, String code, Map<String, Set<String>> calls) {
+        Pattern head = Pattern.compile("^  (?:[^(]* )?([\\w$]+)\\([^)]*\\);$");
+        Pattern call = Pattern.compile("// (?:Interface)?Method ([^:]+):");
+        Set<String> of = new HashSet<>();
+        for (String line : code.split("\\R")) {
+            Matcher h = head.matcher(line);
+            if (h.find()) {
+                String method = h.group(1).equals(name) ? "<init>" : h.group(1);
+                of = calls.computeIfAbsent(name + "." + method, m -> new HashSet<>());
+            }
+            Matcher c = call.matcher(line);
+            if (c.find()) {
+                String called = c.group(1).replace("\"", "").replace('/', '.');
+                of.add(called.contains(".") ? called : name + "." + called);
+            }
+        }
+    }
+
+    /** Recursion would go on for ever: beyond twenty it is deep enough to be told. */
+    private static int depthOf(String method, Map<String, Set<String>> calls, int level) {
+        int deepest = 1;
+        if (level <= 20) {
+            for (String called : calls.getOrDefault(method, Set.of())) {
+                deepest = Math.max(deepest, 1 + depthOf(called, calls, level + 1));
+            }
+        }
+        return deepest;
     }
 }
