@@ -1,5 +1,8 @@
 import java.util.ArrayList;
+import java.util.HashMap;
 import java.util.List;
+import java.util.Map;
+import java.util.function.IntBinaryOperator;
 
 /** What the test classes share: answers held against what is due, texts told, a house seen as a whole. */
 abstract class Checks {
@@ -19,32 +22,63 @@ abstract class Checks {
         long of(SparesHouse house);
     }
 
-    protected static int promise = 0;
-    private static String words = "";
+    private static final Map<Integer, List<String>> SAID = new HashMap<>();
+    private static String where = "";
     private static int passed = 0;
     private static int failed = 0;
+    private static boolean held = true;
 
-    /** The promise and its sentence that the answers from here on are held against. */
+    /** The promise (or "Terms") and its sentence that the answers from here on are held against. */
     protected static void says(int number, String sentence) {
-        promise = number;
-        words = " (" + sentence + ")";
+        seeThatItIsHeld();
+        where = (number == Document.TERMS ? "Terms" : "promise " + number) + " (" + sentence + ")";
+        held = false;
+        SAID.computeIfAbsent(number, n -> new ArrayList<>()).addAll(Document.wordsOf(sentence));
+    }
+
+    private static void seeThatItIsHeld() {
+        if (!held) {
+            fail("no answer is held against it");
+        }
+    }
+
+    /** All that says() told of a promise (or of "Terms"), in order, are the document's own words and all of them. */
+    protected static void saidAll(int number) {
+        List<String> said = SAID.getOrDefault(number, List.of());
+        List<String> words = Document.words(number);
+        for (int i = 0; i < Math.max(said.size(), words.size()); i++) {
+            String mine = i < said.size() ? said.get(i) : "the end";
+            String other = i < words.size() ? words.get(i) : "the end";
+            if (!mine.equals(other)) {
+                fail("of " + number + " is said up to word " + i + " of the document: " + mine + ", there " + other);
+                return;
+            }
+        }
+        pass();
     }
 
     protected static void due(String what, long got, long want) {
         if (got == want) {
-            passed++;
+            pass();
         } else {
             fail(what + " answered " + got + ", due is " + want);
         }
     }
 
+    private static void pass() {
+        passed++;
+        held = true;
+    }
+
     private static void fail(String how) {
         failed++;
-        System.out.println("promise " + promise + words + ": " + how);
+        held = true;
+        System.out.println(where + ": " + how);
     }
 
     /** The last line of a test class, and its exit code. */
     protected static void end(String name) {
+        seeThatItIsHeld();
         System.out.println(name + ": " + passed + " passed, " + failed + " failed");
         if (failed != 0) {
             System.exit(1);
@@ -101,7 +135,7 @@ abstract class Checks {
     protected static void spells(String what, SparesHouse house, String want) {
         String got = spelled(house);
         if (got.equals(want)) {
-            passed++;
+            pass();
         } else {
             fail(what + " spells " + got + ", due is " + want);
         }
@@ -122,6 +156,35 @@ abstract class Checks {
         for (int i : new int[] {-1, last + 1, -2, last + 2, DEEP, FAR, last + 256, last + 65536}) {
             due(name + " of " + i, call.of(house, i), NONE);
         }
+    }
+
+    /** The ways under way: of each its kind, number, part, base, day. */
+    protected static void waysAre(SparesHouse house, int[][] want) {
+        rowsAre("way", want, house::way);
+    }
+
+    /** The wants: of each its base, part, day, and whether it was lent for. */
+    protected static void wantsAre(SparesHouse house, int[][] want) {
+        rowsAre("want", want, house::want);
+    }
+
+    /** The calls of a part: of each its base and day. */
+    protected static void callsAre(SparesHouse house, int part, int[][] want) {
+        rowsAre("call of part " + part + " ", want, (k, what) -> house.call(part, k, what));
+    }
+
+    /** The buys: of each its base, part, number, and the cost up to it. */
+    protected static void buysAre(SparesHouse house, int[][] want) {
+        rowsAre("buys", want, house::buys);
+    }
+
+    private static void rowsAre(String name, int[][] want, IntBinaryOperator call) {
+        for (int k = 0; k < want.length; k++) {
+            for (int what = 0; what < want[k].length; what++) {
+                due(name + "(" + k + ", " + what + ")", call.applyAsInt(k, what), want[k][what]);
+            }
+        }
+        due(name + "(" + want.length + ", 0)", call.applyAsInt(want.length, 0), NONE);
     }
 
     /** One call whose last number varies. */
@@ -206,7 +269,7 @@ abstract class Checks {
                 return;
             }
         }
-        passed++;
+        pass();
     }
 
     /** The call answers so, and the house is as one on which it was not called. */
