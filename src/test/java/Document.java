@@ -6,7 +6,7 @@ import java.nio.file.Path;
 import java.util.ArrayList;
 import java.util.List;
 
-/** The document's own words: those of "Terms" and those of each promise. */
+/** The document's own words: its public face, those of "Terms" and those of each promise. */
 final class Document {
     static final int TERMS = 0;
     static final int PROMISES = 41;
@@ -30,6 +30,17 @@ final class Document {
             }
         }
         return words;
+    }
+
+    /** The lines of the public face, as they must stand. */
+    static List<String> face() {
+        List<String> lines = new ArrayList<>();
+        for (String line : between(text(), "```java\n", "```").split("\n")) {
+            if (line.startsWith("    public ")) {
+                lines.add(line.trim());
+            }
+        }
+        return lines;
     }
 
     private static String text() {

@@ -24,16 +24,6 @@ import java.util.spi.ToolProvider;
 /** The rules of LANGUAGE.md that can be seen from the source and from the compiled classes. */
 public final class LanguageTests {
     private static final Path SOURCE = Path.of("src", "main", "java", "SparesHouse.java");
-    private static final String[] FACE = {
-        "int feed(int, int, int, int, int)", "int back(int)", "int text()", "int breaks(int, int)", "int pass(int)",
-        "int run(int, int)", "int buy(int, int)", "int sell(int, int)", "int supply(int)", "int set(int, int, int)",
-        "int odds(int, int, int)", "int benches(int)", "int keep(int)", "int rule()", "int begin()", "int undo()",
-        "int part(int, int)", "int base(int, int)", "int cell(int, int, int)", "int want(int, int)",
-        "int call(int, int, int)", "int way(int, int)", "int waits(int)", "int played(int)", "long out(int, int, int)",
-        "long lack(int, int, int)", "long lacks()", "int sure(int, int, int)", "int buys(int, int)",
-        "int bought(int, int)", "long lacksBy(int, boolean)", "int best(int, int, int)", "int purseFor(int)",
-        "int would(int, int, int)", "int spared(int, int, int, int)", "int by(int, int, int, int)",
-        "int bestKeep(int, int)", "int quiet()", "int spell(int)", "int count(int)"};
     private static final String[] WORDS = {
         "throw", "throws", "try", "catch", "finally", "synchronized", "assert", "import", "package", "protected",
         "native", "volatile", "transient", "double", "float", "hashCode", "toString", "values", "Object", "record"};
@@ -51,6 +41,7 @@ public final class LanguageTests {
         String code = bare(Files.readString(SOURCE, StandardCharsets.ISO_8859_1));
         words(code);
         methods(code);
+        faceAsItStands(code);
         face();
         List<Class<?>> all = new ArrayList<>(Arrays.asList(SparesHouse.class.getDeclaredClasses()));
         due("11: at most twelve classes", all.size() + 1 <= 12);
@@ -106,6 +97,29 @@ public final class LanguageTests {
         }
     }
 
+    /** The source has the document's face line by line, with its names and its order. */
+    private static void faceAsItStands(String code) {
+        List<String> stands = new ArrayList<>();
+        for (String line : code.split("\n")) {
+            if (line.startsWith("    public ")) {
+                stands.add(line.trim().replaceAll(" \\{$", ";"));
+            }
+        }
+        due("1: the face as the document has it: " + stands, stands.equals(Document.face()));
+        due("1: the class as the document has it", code.contains("public final class SparesHouse {"));
+    }
+
+    /** The methods' heads by the document: types alone, as reflection tells them. */
+    private static Set<String> heads() {
+        Set<String> heads = new TreeSet<>();
+        for (String line : Document.face()) {
+            if (line.matches("public (int|long) .*\\).*")) {
+                heads.add(line.replaceAll("^public |;$", "").replaceAll("(int|boolean) \\w+(?=[,)])", "$1"));
+            }
+        }
+        return heads;
+    }
+
     private static void face() {
         Set<String> publics = new TreeSet<>();
         Set<String> names = new HashSet<>();
@@ -115,7 +129,8 @@ public final class LanguageTests {
                 names.add(m.getName());
             }
         }
-        due("1: the face is " + publics, publics.equals(new TreeSet<>(Arrays.asList(FACE))));
+        due("1: the face is " + publics, publics.equals(heads()));
+        due("1: forty methods", publics.size() == 40);
         for (Method m : SparesHouse.class.getDeclaredMethods()) {
             if (!Modifier.isPublic(m.getModifiers())) {
                 due("1: private " + m.getName(), Modifier.isPrivate(m.getModifiers()) && !names.contains(m.getName()));
@@ -186,7 +201,7 @@ public final class LanguageTests {
             due("11: javap of " + one + ": " + errors, failed == 0);
             callsOf(one.getName(), code.toString(), calls);
         }
-        due("11: calls were found", calls.size() > FACE.length);
+        due("11: calls were found", calls.size() > 40);
         for (String method : calls.keySet()) {
             due("11: calls deeper than eight from " + method, depthOf(method, calls, 1) <= 8);
         }
